@@ -613,9 +613,8 @@ public final class MemoryRows {
         private final long[] minors = new long[1 << MOST_UNKNOWN];
         private long bottom = 1;
 
-        void wipe() {
+        void wipeCells() {
             for (int i = 0; i < MOST_UNKNOWN; i++) {
-                right[i] = 0;
                 for (int j = 0; j < MOST_UNKNOWN; j++) {
                     cells[i][j] = 0;
                 }
@@ -665,7 +664,7 @@ public final class MemoryRows {
 
         void find(Rule rule, Equations equations, long[] series) {
             rule.weigh(false, series);
-            equations.wipe();
+            equations.wipeCells();
             for (int k = 0; k <= rule.p; k++) {
                 equations.cells[k][k] = rule.q;
                 equations.right[k] = missPart(rule, k, series);

@@ -244,11 +244,14 @@ public final class PromiseTest {
         load(x, 1, 1, 9);
         due("share 9 of the misses", x.rule(0, 2, 1, 2, 3), false);
         fraction("the slot stays", what -> x.weight(0, 2, false, what), -1, 2);
+        x.feed(0x01636363, 0x63636363, 0, 0, 0);
+        x.end(1);
+        due("bytes behind the end do not count", x.rule(4, 2, 1, 0, 3), true);
         load(x, 8, -8, 8, -8, 8, -8);
         due("the widest rule", x.rule(5, 4, 3, 3, 1), true);
         due("an empty rule", x.rule(5, 1, 0, 0, 1), true);
         fraction("shares of the rule before are gone", what -> x.weight(5, 1, false, what), 0, 1);
-        due("count(0)", x.count(0), 2);
+        due("count(0)", x.count(0), 3);
     }
 
     private static int steadyOf(int q, int... shares) {
@@ -382,6 +385,8 @@ public final class PromiseTest {
         due("not steady first", x.same(5, 0), MemoryRows.NONE);
         due("not steady second", x.same(0, 5), MemoryRows.NONE);
         due("not steady both", x.same(5, 5), MemoryRows.NONE);
+        addRule(x, 5, 3, 0, 0, 8);
+        due("another like 0, the others 0", x.same(4, 5), 0);
         MemoryRows y = withRule(0, 1, 0, 0, 1);
         due("one is none", y.same(0, 1), MemoryRows.NONE);
         due("one is none", y.same(1, 0), MemoryRows.NONE);
@@ -497,11 +502,12 @@ public final class PromiseTest {
         due("thin of four", x.thin(2, 2), true);
         due("R1", x.likeness(2, 1), 7);
         refused("as far as told", () -> x.likeness(2, 2));
+        due("given", give(x, 3, 77), true);
         due("thin of two", x.thin(2, 2), true);
         refused("as far as told", () -> x.likeness(2, 1));
         due("thin of one", x.thin(2, 2), true);
         due("R0", x.likeness(2, 0), 9);
-        due("none", x.thin(0, 3), false);
+        due("none", x.thin(0, 4), false);
         due("slot 6", x.thin(0, 6), false);
         due("slot -1", x.thin(0, -1), false);
         due("into slot 6", x.thin(6, 0), false);
@@ -527,6 +533,7 @@ public final class PromiseTest {
         promise = "promise 15";
         due("n 0", withLikenesses(7).steps(0), 0);
         due("all", withLikenesses(16, 8, 4, 2, 1).steps(0), 4);
+        due("G 0 is 1", withLikenesses(1, 0).steps(0), 1);
         due("G 1 is 0", withLikenesses(3, 3, 3).steps(0), 1);
         due("G 2 is below 0", withLikenesses(2, 1, -2).steps(0), 2);
         due("G 2 is below 0, one more", withLikenesses(2, 1, -2, 0, 0).steps(0), 2);
@@ -622,6 +629,14 @@ public final class PromiseTest {
         due("0 just inside", withLikenesses(12, 8, 4).even(0), 1);
         due("0 just inside, turned", withLikenesses(12, -8, 4).even(0), 1);
         due("just below 0 inside", withLikenesses(999, 667, 333).even(0), 0);
+        due("lowest outside", withLikenesses(8, 5, 1).even(0), 1);
+        due("lowest outside, turned", withLikenesses(8, -5, 1).even(0), 1);
+        MemoryRows y = withLikenesses(4, 4, 4);
+        due("given", give(y, 0, 4, 1), true);
+        due("what is not told any more is 0", y.even(0), 1);
+        due("given", give(y, 0, 4, 4), true);
+        due("given", give(y, 0, 4), true);
+        due("what is not told any more is 0", y.even(0), 1);
         MemoryRows x = withLikenesses(4, 0, 0, 0);
         due("n 3", x.even(0), MemoryRows.NONE);
         due("n 4", withLikenesses(4, 0, 0, 0, 0).even(0), MemoryRows.NONE);
@@ -655,6 +670,9 @@ public final class PromiseTest {
         due("at(59)", x.at(59), 7);
         setRow(x, 3);
         due("those before are gone", x.at(1), 101);
+        x.feed(0x01636363, 0x63636363, 0, 0, 0);
+        x.end(1);
+        due("bytes behind the end do not count", x.row(), 1);
         due("an empty row", x.row(), 0);
         due("count(2)", x.count(2), 0);
     }
@@ -859,6 +877,8 @@ public final class PromiseTest {
         due("nothing amiss: the first", x.amiss(0), 0);
         setRow(x, 0, 5, -5, 5);
         due("of like ones the first", x.amiss(1), 1);
+        setRow(x, 0, 1);
+        due("a little amiss", x.amiss(1), 1);
         addRule(x, 4, 1, 1, 0, 1, 1);
         setRow(x, 2, 2, 2, 9, 2, 2, 2);
         due("the middle one", x.amiss(4), 3);
@@ -901,6 +921,9 @@ public final class PromiseTest {
         setRow(x, 1, -2, 1);
         due("amiss", x.amiss(2), 1);
         fraction("by halves", what -> x.lower(what), 49, 5);
+        setRow(x, 8, 1);
+        due("amiss", x.amiss(2), 0);
+        fraction("a place ahead of the first miss", what -> x.lower(what), 9, 1);
     }
 
     private static void count() {
