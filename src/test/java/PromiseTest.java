@@ -356,6 +356,10 @@ public final class PromiseTest {
         fraction("misses alone 2", what -> x.like(1, 2, what), 18, 1);
         fraction("misses alone 3", what -> x.like(1, 3, what), 18, 1);
         fraction("misses alone 4", what -> x.like(1, 4, what), 0, 1);
+        addRule(x, 1, 1, 0, 2, 2, 3, -1);
+        fraction("q 1, misses alone 0", what -> x.like(1, 0, what), 22, 1);
+        fraction("q 1, misses alone 1", what -> x.like(1, 1, what), 0, 1);
+        fraction("q 1, misses alone 2", what -> x.like(1, 2, what), -2, 1);
         addRule(x, 1, 3, 2, 0, 1, 4, -2);
         fraction("two back 0", what -> x.like(1, 0, what), 5, 1);
         fraction("two back 1", what -> x.like(1, 1, what), 4, 1);
@@ -629,7 +633,9 @@ public final class PromiseTest {
         due("0 just inside", withLikenesses(12, 8, 4).even(0), 1);
         due("0 just inside, turned", withLikenesses(12, -8, 4).even(0), 1);
         due("just below 0 inside", withLikenesses(999, 667, 333).even(0), 0);
+        due("below 0 inside, R2 1", withLikenesses(4, 3, 1).even(0), 0);
         due("lowest outside", withLikenesses(8, 5, 1).even(0), 1);
+        due("lowest just outside", withLikenesses(26, 17, 4).even(0), 1);
         due("lowest outside, turned", withLikenesses(8, -5, 1).even(0), 1);
         MemoryRows y = withLikenesses(4, 4, 4);
         due("given", give(y, 0, 4, 1), true);
