@@ -1,13 +1,5 @@
-import java.util.NoSuchElementException;
-import java.util.function.IntToLongFunction;
-import java.util.function.LongSupplier;
-
 /** Each promise of the document by hand-reckoned answers: ordinary inputs, edges, wrong inputs. */
-public final class PromiseTest {
-    private static final int GAP = -128;
-    private static int wrong = 0;
-    private static String promise = "";
-
+public final class PromiseTest extends Bench {
     public static void main(String[] args) {
         newObject();
         feed();
@@ -39,127 +31,19 @@ public final class PromiseTest {
         amiss();
         lower();
         count();
-        System.out.println(wrong == 0 ? "every promise holds" : wrong + " answers are not as due");
-        if (wrong != 0) {
-            System.exit(1);
-        }
+        finish("every promise holds");
     }
-
-    // ---- what the tests are written with
-
-    private static void due(String call, long got, long want) {
-        if (got != want) {
-            wrong++;
-            System.out.println(promise + ": " + call + " answered " + got + ", due is " + want);
-        }
-    }
-
-    private static void due(String call, boolean got, boolean want) {
-        due(call, got ? 1 : 0, want ? 1 : 0);
-    }
-
-    private static void refused(String call, LongSupplier asked) {
-        String got;
-        try {
-            got = "answered " + asked.getAsLong();
-        } catch (RuntimeException e) {
-            got = "threw " + e.getClass().getName();
-        }
-        if (!got.equals("threw " + NoSuchElementException.class.getName())) {
-            wrong++;
-            System.out.println(promise + ": " + call + " " + got + ", due is NoSuchElementException");
-        }
-    }
-
-    private static void fraction(String call, IntToLongFunction part, long top, long bottom) {
-        try {
-            due(call + " upper", part.applyAsLong(0), top);
-            due(call + " lower", part.applyAsLong(1), bottom);
-        } catch (RuntimeException e) {
-            wrong++;
-            System.out.println(promise + ": " + call + " threw " + e + ", due is " + top + "/" + bottom);
-            return;
-        }
-        refused(call + " what 2", () -> part.applyAsLong(2));
-        refused(call + " what -1", () -> part.applyAsLong(-1));
-    }
-
-    private static int word(int[] bytes, int from) {
-        int word = 0;
-        for (int i = from; i < from + 4; i++) {
-            word = (word << 8) | ((i < bytes.length ? bytes[i] : 0) & 255);
-        }
-        return word;
-    }
-
-    private static void load(MemoryRows x, int... bytes) {
-        x.end(0);
-        for (int i = 0; i < bytes.length; i += 20) {
-            x.feed(word(bytes, i), word(bytes, i + 4), word(bytes, i + 8), word(bytes, i + 12), word(bytes, i + 16));
-        }
-        due("end after load", x.end(bytes.length), true);
-    }
-
-    private static MemoryRows withRule(int s, int q, int p, int m, int spread, int... shares) {
-        MemoryRows x = new MemoryRows();
-        addRule(x, s, q, p, m, spread, shares);
-        return x;
-    }
-
-    private static void addRule(MemoryRows x, int s, int q, int p, int m, int spread, int... shares) {
-        load(x, shares);
-        due("rule", x.rule(s, q, p, m, spread), true);
-    }
-
-    private static int[] pairs(int... numbers) {
-        int[] bytes = new int[2 * numbers.length];
-        for (int i = 0; i < numbers.length; i++) {
-            bytes[2 * i] = numbers[i] >> 8;
-            bytes[2 * i + 1] = numbers[i] & 255;
-        }
-        return bytes;
-    }
-
-    private static boolean give(MemoryRows x, int s, int... numbers) {
-        load(x, pairs(numbers));
-        return x.given(s);
-    }
-
-    private static MemoryRows withLikenesses(int... numbers) {
-        MemoryRows x = new MemoryRows();
-        due("given", give(x, 0, numbers), true);
-        return x;
-    }
-
-    private static void setRow(MemoryRows x, int... numbers) {
-        load(x, numbers);
-        due("row", x.row(), numbers.length);
-    }
-
-    private static MemoryRows withRow(int... numbers) {
-        MemoryRows x = new MemoryRows();
-        setRow(x, numbers);
-        return x;
-    }
-
-    private static int[] repeated(int number, int times) {
-        int[] numbers = new int[times];
-        java.util.Arrays.fill(numbers, number);
-        return numbers;
-    }
-
-    // ---- the promises
 
     private static void newObject() {
-        promise = "promise 1";
+        about("promise 1");
         MemoryRows x = new MemoryRows();
         for (int what = 0; what <= 4; what++) {
             due("count(" + what + ")", x.count(what), 0);
         }
         for (int s = 0; s < 6; s++) {
             int slot = s;
-            due("steady", x.steady(s), MemoryRows.NONE);
-            due("steps", x.steps(s), MemoryRows.NONE);
+            due("steady", x.steady(s), NONE);
+            due("steps", x.steps(s), NONE);
             refused("likeness", () -> x.likeness(slot, 0));
         }
         due("at(0)", x.at(0), 101);
@@ -169,7 +53,7 @@ public final class PromiseTest {
     }
 
     private static void feed() {
-        promise = "promise 2";
+        about("promise 2");
         MemoryRows x = new MemoryRows();
         due("feed", x.feed(0x01020304, 0x05060708, 0x090A0B0C, 0x0D0E0F10, 0x11121314), 20);
         due("row", x.row(), 20);
@@ -188,17 +72,17 @@ public final class PromiseTest {
         for (int i = 1; i <= 5; i++) {
             due("feed", x.feed(1, 1, 1, 1, 1), 20 * i);
         }
-        due("feed to 120", x.feed(1, 1, 1, 1, 1), MemoryRows.NONE);
+        due("feed to 120", x.feed(1, 1, 1, 1, 1), NONE);
         due("count(4)", x.count(4), 100);
         due("end(80)", x.end(80), true);
         due("feed to 100", x.feed(1, 1, 1, 1, 1), 100);
         due("end(81)", x.end(81), true);
-        due("feed to 101", x.feed(1, 1, 1, 1, 1), MemoryRows.NONE);
+        due("feed to 101", x.feed(1, 1, 1, 1, 1), NONE);
         due("count(4)", x.count(4), 81);
     }
 
     private static void end() {
-        promise = "promise 3";
+        about("promise 3");
         MemoryRows x = new MemoryRows();
         due("end(0) of nothing", x.end(0), true);
         due("end(1) of nothing", x.end(1), false);
@@ -218,7 +102,7 @@ public final class PromiseTest {
     }
 
     private static void rule() {
-        promise = "promise 4";
+        about("promise 4");
         MemoryRows x = withRule(0, 2, 1, 2, 20, -8, 8, -1);
         due("count(4)", x.count(4), 0);
         fraction("A1", what -> x.weight(0, 1, true, what), 0, 1);
@@ -259,7 +143,7 @@ public final class PromiseTest {
     }
 
     private static void steady() {
-        promise = "promise 5";
+        about("promise 5");
         due("no share", steadyOf(1), 1);
         due("1/2", steadyOf(2, 1), 1);
         due("1", steadyOf(1, 1), 0);
@@ -283,9 +167,9 @@ public final class PromiseTest {
         due("three of 4, a root pair within", steadyOf(4, 8, -6, 1), 0);
         MemoryRows x = withRule(0, 2, 1, 1, 1, 1, 8);
         due("miss shares do not count", x.steady(0), 1);
-        due("no rule", x.steady(1), MemoryRows.NONE);
-        due("slot -1", x.steady(-1), MemoryRows.NONE);
-        due("slot 6", x.steady(6), MemoryRows.NONE);
+        due("no rule", x.steady(1), NONE);
+        due("slot -1", x.steady(-1), NONE);
+        due("slot 6", x.steady(6), NONE);
     }
 
     private static int clearOf(int q, int... shares) {
@@ -293,7 +177,7 @@ public final class PromiseTest {
     }
 
     private static void clear() {
-        promise = "promise 6";
+        about("promise 6");
         due("no share", clearOf(1), 1);
         due("1/2", clearOf(2, 1), 1);
         due("2/2", clearOf(2, 2), 0);
@@ -306,13 +190,13 @@ public final class PromiseTest {
         due("third of size 1", clearOf(4, 0, 0, -4), 0);
         MemoryRows x = withRule(0, 2, 1, 1, 1, 8, 1);
         due("back shares do not count", x.clear(0), 1);
-        due("no rule", x.clear(1), MemoryRows.NONE);
-        due("slot -1", x.clear(-1), MemoryRows.NONE);
-        due("slot 6", x.clear(6), MemoryRows.NONE);
+        due("no rule", x.clear(1), NONE);
+        due("slot -1", x.clear(-1), NONE);
+        due("slot 6", x.clear(6), NONE);
     }
 
     private static void weight() {
-        promise = "promise 7";
+        about("promise 7");
         MemoryRows x = withRule(0, 2, 1, 1, 1, 1, 1);
         fraction("0 of misses", what -> x.weight(0, 0, false, what), 1, 1);
         fraction("1 of misses", what -> x.weight(0, 1, false, what), 1, 1);
@@ -340,7 +224,7 @@ public final class PromiseTest {
     }
 
     private static void like() {
-        promise = "promise 8";
+        about("promise 8");
         MemoryRows x = withRule(0, 2, 1, 1, 1, 1, 1);
         fraction("like 0", what -> x.like(0, 0, what), 7, 3);
         fraction("like 1", what -> x.like(0, 1, what), 5, 3);
@@ -372,7 +256,7 @@ public final class PromiseTest {
     }
 
     private static void same() {
-        promise = "promise 9";
+        about("promise 9");
         MemoryRows x = withRule(0, 2, 0, 1, 4, 1);
         addRule(x, 1, 2, 0, 1, 1, 4);
         due("turned roots", x.same(0, 1), 1);
@@ -386,20 +270,20 @@ public final class PromiseTest {
         addRule(x, 4, 1, 0, 0, 7);
         due("shares that undo one another", x.same(3, 4), 1);
         addRule(x, 5, 1, 1, 0, 1, 1);
-        due("not steady first", x.same(5, 0), MemoryRows.NONE);
-        due("not steady second", x.same(0, 5), MemoryRows.NONE);
-        due("not steady both", x.same(5, 5), MemoryRows.NONE);
+        due("not steady first", x.same(5, 0), NONE);
+        due("not steady second", x.same(0, 5), NONE);
+        due("not steady both", x.same(5, 5), NONE);
         addRule(x, 5, 3, 0, 0, 8);
         due("another like 0, the others 0", x.same(4, 5), 0);
         MemoryRows y = withRule(0, 1, 0, 0, 1);
-        due("one is none", y.same(0, 1), MemoryRows.NONE);
-        due("one is none", y.same(1, 0), MemoryRows.NONE);
-        due("slot 6", y.same(0, 6), MemoryRows.NONE);
-        due("slot -1", y.same(-1, 0), MemoryRows.NONE);
+        due("one is none", y.same(0, 1), NONE);
+        due("one is none", y.same(1, 0), NONE);
+        due("slot 6", y.same(0, 6), NONE);
+        due("slot -1", y.same(-1, 0), NONE);
     }
 
     private static void given() {
-        promise = "promise 10";
+        about("promise 10");
         MemoryRows x = withLikenesses(1000, -1000, 999, -300, 1000);
         due("the tape is empty then", x.count(4), 0);
         due("likeness(0, 0)", x.likeness(0, 0), 1000);
@@ -431,7 +315,7 @@ public final class PromiseTest {
     }
 
     private static void counted() {
-        promise = "promise 11";
+        about("promise 11");
         MemoryRows x = withRow(1, 2, 3, 4);
         due("counted", x.counted(0, 4), true);
         int[] want = {30, 20, 11, 4, 0};
@@ -464,7 +348,7 @@ public final class PromiseTest {
     }
 
     private static void joined() {
-        promise = "promise 12";
+        about("promise 12");
         MemoryRows x = withLikenesses(4, 2, 1);
         due("given", give(x, 1, 5, -3, 1, 2, 2), true);
         due("joined", x.joined(2, 0, 1), true);
@@ -495,7 +379,7 @@ public final class PromiseTest {
     }
 
     private static void thin() {
-        promise = "promise 13";
+        about("promise 13");
         MemoryRows x = withLikenesses(9, 8, 7, 6, 5);
         due("thin", x.thin(1, 0), true);
         due("R0", x.likeness(1, 0), 9);
@@ -520,7 +404,7 @@ public final class PromiseTest {
     }
 
     private static void likeness() {
-        promise = "promise 14";
+        about("promise 14");
         MemoryRows x = withLikenesses(400, -399, 0);
         due("R0", x.likeness(0, 0), 400);
         due("R1", x.likeness(0, 1), -399);
@@ -534,7 +418,7 @@ public final class PromiseTest {
     }
 
     private static void steps() {
-        promise = "promise 15";
+        about("promise 15");
         due("n 0", withLikenesses(7).steps(0), 0);
         due("all", withLikenesses(16, 8, 4, 2, 1).steps(0), 4);
         due("G 0 is 1", withLikenesses(1, 0).steps(0), 1);
@@ -544,13 +428,13 @@ public final class PromiseTest {
         due("G 2 is 0", withLikenesses(2, 1, -1, -2, -1).steps(0), 2);
         due("G 3 is below 0", withLikenesses(4, 0, 0, 4, 1).steps(0), 3);
         MemoryRows x = withLikenesses(7);
-        due("none", x.steps(1), MemoryRows.NONE);
-        due("slot 6", x.steps(6), MemoryRows.NONE);
-        due("slot -1", x.steps(-1), MemoryRows.NONE);
+        due("none", x.steps(1), NONE);
+        due("slot 6", x.steps(6), NONE);
+        due("slot -1", x.steps(-1), NONE);
     }
 
     private static void share() {
-        promise = "promise 16";
+        about("promise 16");
         MemoryRows x = withLikenesses(4, 2, -1);
         fraction("F1 of 1", what -> x.share(0, 1, 1, what), 1, 2);
         fraction("F1 of 2", what -> x.share(0, 2, 1, what), 5, 6);
@@ -577,7 +461,7 @@ public final class PromiseTest {
     }
 
     private static void left() {
-        promise = "promise 17";
+        about("promise 17");
         MemoryRows x = withLikenesses(4, 2, -1);
         fraction("G 0", what -> x.left(0, 0, what), 4, 1);
         fraction("G 1", what -> x.left(0, 1, what), 3, 1);
@@ -599,7 +483,7 @@ public final class PromiseTest {
     }
 
     private static void solid() {
-        promise = "promise 18";
+        about("promise 18");
         due("n 0", withLikenesses(7).solid(0), 1);
         due("all above 0", withLikenesses(16, 8, 4, 2, 1).solid(0), 1);
         due("the last G is 0", withLikenesses(3, -3).solid(0), 1);
@@ -609,13 +493,13 @@ public final class PromiseTest {
         due("a G before the last is below 0", withLikenesses(2, 1, -2, 0).solid(0), 0);
         due("n 4, the last G is 0", withLikenesses(1000, 0, 0, 0, 1000).solid(0), 1);
         MemoryRows x = withLikenesses(7);
-        due("none", x.solid(1), MemoryRows.NONE);
-        due("slot 6", x.solid(6), MemoryRows.NONE);
-        due("slot -1", x.solid(-1), MemoryRows.NONE);
+        due("none", x.solid(1), NONE);
+        due("slot 6", x.solid(6), NONE);
+        due("slot -1", x.solid(-1), NONE);
     }
 
     private static void even() {
-        promise = "promise 19";
+        about("promise 19");
         due("n 0", withLikenesses(1).even(0), 1);
         due("R1 half", withLikenesses(2, 1).even(0), 1);
         due("R1 minus half", withLikenesses(2, -1).even(0), 1);
@@ -644,15 +528,15 @@ public final class PromiseTest {
         due("given", give(y, 0, 4), true);
         due("what is not told any more is 0", y.even(0), 1);
         MemoryRows x = withLikenesses(4, 0, 0, 0);
-        due("n 3", x.even(0), MemoryRows.NONE);
-        due("n 4", withLikenesses(4, 0, 0, 0, 0).even(0), MemoryRows.NONE);
-        due("none", x.even(1), MemoryRows.NONE);
-        due("slot 6", x.even(6), MemoryRows.NONE);
-        due("slot -1", x.even(-1), MemoryRows.NONE);
+        due("n 3", x.even(0), NONE);
+        due("n 4", withLikenesses(4, 0, 0, 0, 0).even(0), NONE);
+        due("none", x.even(1), NONE);
+        due("slot 6", x.even(6), NONE);
+        due("slot -1", x.even(-1), NONE);
     }
 
     private static void row() {
-        promise = "promise 20";
+        about("promise 20");
         MemoryRows x = withRow(20, -20, GAP, 0);
         due("the tape is empty then", x.count(4), 0);
         due("at(0)", x.at(0), 20);
@@ -660,16 +544,16 @@ public final class PromiseTest {
         due("at(2)", x.at(2), 100);
         due("at(3)", x.at(3), 0);
         load(x, 1, 21);
-        due("21", x.row(), MemoryRows.NONE);
+        due("21", x.row(), NONE);
         due("the tape is empty then too", x.count(4), 0);
         load(x, -21);
-        due("-21", x.row(), MemoryRows.NONE);
+        due("-21", x.row(), NONE);
         load(x, -127);
-        due("-127", x.row(), MemoryRows.NONE);
+        due("-127", x.row(), NONE);
         load(x, 100);
-        due("100", x.row(), MemoryRows.NONE);
+        due("100", x.row(), NONE);
         load(x, repeated(1, 61));
-        due("61", x.row(), MemoryRows.NONE);
+        due("61", x.row(), NONE);
         due("the row stays", x.count(2), 4);
         due("the row stays", x.at(0), 20);
         setRow(x, repeated(7, 60));
@@ -684,7 +568,7 @@ public final class PromiseTest {
     }
 
     private static void at() {
-        promise = "promise 21";
+        about("promise 21");
         MemoryRows x = withRow(-5, GAP);
         due("at(0)", x.at(0), -5);
         due("at(1)", x.at(1), 100);
@@ -695,7 +579,7 @@ public final class PromiseTest {
     }
 
     private static void put() {
-        promise = "promise 22";
+        about("promise 22");
         MemoryRows x = new MemoryRows();
         due("put(1, 0)", x.put(1, 0), false);
         due("put(0, 20)", x.put(0, 20), true);
@@ -724,7 +608,7 @@ public final class PromiseTest {
     }
 
     private static void next() {
-        promise = "promise 23";
+        about("promise 23");
         MemoryRows x = withRow(GAP, 4, 6);
         addRule(x, 0, 2, 2, 0, 1, 3, -1);
         fraction("next 1", what -> x.next(0, 1, what), 7, 1);
@@ -756,7 +640,7 @@ public final class PromiseTest {
     }
 
     private static void whole() {
-        promise = "promise 24";
+        about("promise 24");
         MemoryRows x = withRow(1, 2, 3, GAP, 5, 6, 7);
         addRule(x, 0, 1, 1, 0, 1, 1);
         addRule(x, 1, 1, 3, 0, 1, 0, 0, 0);
@@ -766,11 +650,11 @@ public final class PromiseTest {
         due("p 1", x.whole(0), 4);
         due("p 3", x.whole(1), 0);
         due("p 0", x.whole(2), 6);
-        due("it has miss shares", x.whole(3), MemoryRows.NONE);
+        due("it has miss shares", x.whole(3), NONE);
         due("p 2", x.whole(4), 2);
-        due("no rule", x.whole(5), MemoryRows.NONE);
-        due("slot 6", x.whole(6), MemoryRows.NONE);
-        due("slot -1", x.whole(-1), MemoryRows.NONE);
+        due("no rule", x.whole(5), NONE);
+        due("slot 6", x.whole(6), NONE);
+        due("slot -1", x.whole(-1), NONE);
         setRow(x, 1, 2, 3);
         due("p places", x.whole(1), 0);
         x.put(3, 1);
@@ -781,7 +665,7 @@ public final class PromiseTest {
     }
 
     private static void squares() {
-        promise = "promise 25";
+        about("promise 25");
         MemoryRows x = withRow(1, 2, 4, GAP, 5, 7);
         addRule(x, 0, 2, 1, 0, 1, 1);
         addRule(x, 1, 1, 0, 0, 1);
@@ -800,17 +684,17 @@ public final class PromiseTest {
     }
 
     private static void fill() {
-        promise = "promise 26";
+        about("promise 26");
         MemoryRows x = withRow(1, 2, GAP, 4);
         addRule(x, 0, 1, 1, 0, 1, 2);
         addRule(x, 1, 1, 1, 0, 1, 0);
         addRule(x, 2, 1, 0, 1, 1, 0);
         due("one gap", x.fill(0), 1);
         due("the row stays", x.at(2), 100);
-        due("no rule", x.fill(3), MemoryRows.NONE);
-        due("it has miss shares", x.fill(2), MemoryRows.NONE);
-        due("slot 6", x.fill(6), MemoryRows.NONE);
-        due("slot -1", x.fill(-1), MemoryRows.NONE);
+        due("no rule", x.fill(3), NONE);
+        due("it has miss shares", x.fill(2), NONE);
+        due("slot 6", x.fill(6), NONE);
+        due("slot -1", x.fill(-1), NONE);
         setRow(x, 1, 2, 3);
         due("no gap", x.fill(0), 0);
         setRow(x, GAP, GAP, 3, GAP);
@@ -822,18 +706,18 @@ public final class PromiseTest {
         due("gaps alone", x.fill(0), 0);
         setRow(x, GAP);
         due("not more than p places", x.fill(0), 0);
-        due("it has miss shares", x.fill(2), MemoryRows.NONE);
+        due("it has miss shares", x.fill(2), NONE);
     }
 
     private static void filled() {
-        promise = "promise 27";
+        about("promise 27");
         MemoryRows x = withRow(1, 2, GAP, 4);
         addRule(x, 0, 1, 1, 0, 1, 2);
         due("fill", x.fill(0), 1);
         fraction("filled", what -> x.filled(0, what), 12, 5);
         refused("no second gap", () -> x.filled(1, 0));
         refused("gap -1", () -> x.filled(-1, 0));
-        due("a fill without a rule", x.fill(5), MemoryRows.NONE);
+        due("a fill without a rule", x.fill(5), NONE);
         fraction("the latest above 0 holds", what -> x.filled(0, what), 12, 5);
         addRule(x, 0, 1, 2, 0, 1, 0, 0);
         fraction("another rule does not undo it", what -> x.filled(0, what), 12, 5);
@@ -842,7 +726,7 @@ public final class PromiseTest {
         fraction("the latest", what -> x.filled(0, what), 12, 5);
         due("a wrong put", x.put(9, 1), false);
         load(x, 99);
-        due("a wrong row", x.row(), MemoryRows.NONE);
+        due("a wrong row", x.row(), NONE);
         fraction("the row was not changed", what -> x.filled(0, what), 12, 5);
         due("put", x.put(4, 1), true);
         refused("the row was changed", () -> x.filled(0, 0));
@@ -868,17 +752,17 @@ public final class PromiseTest {
     }
 
     private static void amiss() {
-        promise = "promise 28";
+        about("promise 28");
         MemoryRows x = withRow(1, 2, 3, 4);
         addRule(x, 0, 1, 1, 0, 1, 2);
         addRule(x, 1, 1, 0, 0, 1);
         addRule(x, 2, 1, 1, 1, 1, 1, 0);
         due("p 1", x.amiss(0), 3);
         due("p 0", x.amiss(1), 3);
-        due("it has miss shares", x.amiss(2), MemoryRows.NONE);
-        due("no rule", x.amiss(3), MemoryRows.NONE);
-        due("slot 6", x.amiss(6), MemoryRows.NONE);
-        due("slot -1", x.amiss(-1), MemoryRows.NONE);
+        due("it has miss shares", x.amiss(2), NONE);
+        due("no rule", x.amiss(3), NONE);
+        due("slot 6", x.amiss(6), NONE);
+        due("slot -1", x.amiss(-1), NONE);
         setRow(x, 1, 2, 4, 8);
         due("nothing amiss: the first", x.amiss(0), 0);
         setRow(x, 0, 5, -5, 5);
@@ -891,27 +775,27 @@ public final class PromiseTest {
         setRow(x, 9, 2, 2, 2);
         due("the first place", x.amiss(4), 0);
         setRow(x, 1, GAP, 2);
-        due("a gap", x.amiss(0), MemoryRows.NONE);
+        due("a gap", x.amiss(0), NONE);
         setRow(x, 1);
-        due("p places", x.amiss(0), MemoryRows.NONE);
+        due("p places", x.amiss(0), NONE);
         due("p + 1 places", x.amiss(1), 0);
         setRow(x);
-        due("an empty row", x.amiss(1), MemoryRows.NONE);
+        due("an empty row", x.amiss(1), NONE);
     }
 
     private static void lower() {
-        promise = "promise 29";
+        about("promise 29");
         MemoryRows x = withRow(1, GAP, 3);
         addRule(x, 0, 1, 1, 0, 1, 2);
         addRule(x, 1, 3, 1, 0, 1, 3);
-        due("amiss", x.amiss(0), MemoryRows.NONE);
+        due("amiss", x.amiss(0), NONE);
         refused("there was none", () -> x.lower(0));
         setRow(x, 1, 2, 3, 4);
         due("amiss", x.amiss(0), 3);
         fraction("lower", what -> x.lower(what), 4, 1);
-        due("amiss", x.amiss(5), MemoryRows.NONE);
+        due("amiss", x.amiss(5), NONE);
         setRow(x, 1, GAP);
-        due("amiss", x.amiss(0), MemoryRows.NONE);
+        due("amiss", x.amiss(0), NONE);
         fraction("the latest that was not NONE", what -> x.lower(what), 4, 1);
         setRow(x, 2, 2, 2, 9, 2, 2, 2);
         fraction("another row does not undo it", what -> x.lower(what), 4, 1);
@@ -933,7 +817,7 @@ public final class PromiseTest {
     }
 
     private static void count() {
-        promise = "promise 30";
+        about("promise 30");
         MemoryRows x = withRow(1, GAP, 3, GAP, GAP);
         addRule(x, 0, 1, 1, 0, 1, 2);
         addRule(x, 5, 1, 0, 0, 1);
@@ -945,8 +829,8 @@ public final class PromiseTest {
         due("places", x.count(2), 5);
         due("gaps", x.count(3), 3);
         due("bytes", x.count(4), 7);
-        due("count(5)", x.count(5), MemoryRows.NONE);
-        due("count(-1)", x.count(-1), MemoryRows.NONE);
+        due("count(5)", x.count(5), NONE);
+        due("count(-1)", x.count(-1), NONE);
         due("put", x.put(1, 2), true);
         due("gaps", x.count(3), 2);
         due("rule again", withRule(0, 1, 0, 0, 1).count(0), 1);
