@@ -1,5 +1,8 @@
 import java.util.Arrays;
+import java.util.Set;
+import java.util.TreeSet;
 import java.util.function.Consumer;
+import java.util.function.IntToLongFunction;
 import java.util.function.ToLongFunction;
 
 /**
@@ -10,7 +13,7 @@ public final class BoundaryTest extends Bench {
     private static final int MIN = Integer.MIN_VALUE;
     private static final int MAX = Integer.MAX_VALUE;
     private static final int[] NO_SLOTS = {-1, 6, 7, 255, 256, MIN, MIN + 1, MAX, MAX - 1};
-    private static int sentences = 0;
+    private static final Set<String> SENTENCES = new TreeSet<>();
 
     public static void main(String[] args) {
         ofFractions();
@@ -30,12 +33,13 @@ public final class BoundaryTest extends Bench {
         promises23To25();
         promises26To27();
         promises28To30();
-        finish("every boundary holds, by " + sentences + " sentences");
+        finish("every boundary holds, by " + SENTENCES.size() + " sentences");
     }
 
     private static void sentence(String where, String words, Runnable test) {
-        about(where + ", \"" + words + "\"");
-        sentences++;
+        String name = where + ", \"" + words + "\"";
+        about(name);
+        SENTENCES.add(name);
         try {
             test.run();
         } catch (RuntimeException e) {
@@ -78,6 +82,16 @@ public final class BoundaryTest extends Bench {
         MemoryRows without = furnished();
         without.end(0);
         due("the state behind " + call, State.of(x), State.of(without));
+    }
+
+    /** The parts 0 and 1 are told, no other. */
+    private static void onlyTwoParts(String call, IntToLongFunction part) {
+        for (int what : new int[] {0, 1}) {
+            due(call + ", what " + what, said(() -> part.applyAsLong(what)).equals(REFUSED), false);
+        }
+        for (int what : new int[] {-1, 2, 3, 256, MIN, MAX}) {
+            refused(call + ", what " + what, () -> part.applyAsLong(what));
+        }
     }
 
     private static long number(boolean answer) {
@@ -378,7 +392,8 @@ public final class BoundaryTest extends Bench {
                 refused("left behind STEP n " + n, () -> x.left(0, last + 1, 0));
                 refused("share behind STEP n " + n, () -> x.share(0, last + 1, 1, 0));
                 if (n > 0) {
-                    fraction("share of STEP n " + n, what -> x.share(0, last, last, what), n == 1 ? 1 : 0, n == 1 ? 2 : 1);
+                    fraction("share of STEP n " + n, what -> x.share(0, last, last, what),
+                        n == 1 ? 1 : 0, n == 1 ? 2 : 1);
                 }
             }
         });
@@ -416,6 +431,18 @@ public final class BoundaryTest extends Bench {
             due("all are there", withLikenesses(16, 8, 4, 2, 1).solid(0), 1);
             due("STEP 2 is not there", withLikenesses(5, 5, 5).solid(0), 0);
             due("STEP 4 is not there", withLikenesses(4, 0, 0, 4, 0).solid(0), 0);
+            // Here the equations of the last STEP have just one answer, and its G would be 0 or more.
+            int[][] brokenAhead = {
+                {1, -1, -1, -1}, {1, -1, -1, 1}, {1, -1, 0, 1, 0}, {1, -1, 0, 1, -1}, {2, -1, -2, -2},
+                {3, -2, -2, 3}, {2, -1, -2, 2, -2}, {2, -1, -2, -1, 2}, {1, 0, -1, -1, -1}, {2, -1, -1, -1, 2},
+                {2, -1, 0, -2, -2}, {2, -1, 0, 2, -1},
+            };
+            int[] steps = {1, 1, 1, 1, 2, 2, 2, 2, 2, 2, 3, 3};
+            for (int i = 0; i < brokenAhead.length; i++) {
+                MemoryRows x = withLikenesses(brokenAhead[i]);
+                due("steps of " + Arrays.toString(brokenAhead[i]), x.steps(0), steps[i]);
+                due("solid of " + Arrays.toString(brokenAhead[i]), x.solid(0), 0);
+            }
         });
         sentence("terms", "and each G is 0 or more", () -> {
             due("the last G is 0, n 1", withLikenesses(5, 5).solid(0), 1);
@@ -436,6 +463,11 @@ public final class BoundaryTest extends Bench {
                 due("below 0 within alone", withLikenesses(9, 5 * sign, 4).even(0), 0);
                 due("0 just at the end of within", withLikenesses(12, 8 * sign, 4).even(0), 1);
                 due("above 0 within", withLikenesses(10, 4 * sign, 4).even(0), 1);
+                due("just below 0 within", withLikenesses(999, 667 * sign, 333).even(0), 0);
+                due("below 0 within, R2 1", withLikenesses(4, 3 * sign, 1).even(0), 0);
+                due("below 0 near the end of within", withLikenesses(13, 10 * sign, 4).even(0), 0);
+                due("lowest behind the end of within", withLikenesses(8, 5 * sign, 1).even(0), 1);
+                due("lowest just behind the end of within", withLikenesses(26, 17 * sign, 4).even(0), 1);
                 due("R2 below 0, 0 at one end", withLikenesses(6, 2 * sign, -1).even(0), 1);
                 due("R2 below 0, below 0 at one end", withLikenesses(5, 2 * sign, -1).even(0), 0);
                 due("the largest", withLikenesses(1000, 1000 * sign, 1000).even(0), 0);
@@ -514,6 +546,10 @@ public final class BoundaryTest extends Bench {
             setRow(x, 4, GAP);
             due("fill at the end", x.fill(0), 1);
             fraction("nothing behind it", what -> x.filled(0, what), 2, 1);
+            setRow(x, GAP, 3, GAP);
+            due("fill at both ends", x.fill(0), 2);
+            fraction("the first place", what -> x.filled(0, what), 6, 1);
+            fraction("the last place", what -> x.filled(1, what), 3, 2);
             setRow(x, 20, GAP, -20);
             addRule(x, 0, 1, 1, 0, 1, 8);
             due("fill", x.fill(0), 1);
@@ -596,6 +632,9 @@ public final class BoundaryTest extends Bench {
             fraction("nothing lower", what -> x.lower(what), 0, 1);
             setRow(x, 4, -5, 5);
             due("the two behind", x.amiss(0), 1);
+            setRow(x, 4, 3, 2);
+            due("a little amiss is more than nothing", x.amiss(1), 2);
+            fraction("a quarter squared", what -> x.lower(what), 1, 16);
             setRow(x, 5, -5, 6);
             due("the last alone", x.amiss(0), 2);
             setRow(x, 0, -4, 5);
@@ -863,6 +902,23 @@ public final class BoundaryTest extends Bench {
             refused("k 9", () -> x.weight(0, 9, true, 0));
             refused("k -1", () -> x.weight(0, -1, true, 0));
         });
+        sentence("promise 7", "NoSuchElementException: no RULE, another k or what (likewise below)", () -> {
+            MemoryRows x = withRule(0, 2, 1, 1, 1, 1, 1);
+            for (int k = 0; k <= 8; k++) {
+                int far = k;
+                onlyTwoParts("weight " + k, what -> x.weight(0, far, false, what));
+                onlyTwoParts("weight of numbers " + k, what -> x.weight(0, far, true, what));
+                onlyTwoParts("like " + k, what -> x.like(0, far, what));
+            }
+            refused("weight of an empty slot", () -> x.weight(1, 0, false, 0));
+            refused("weight of numbers of an empty slot", () -> x.weight(1, 0, true, 0));
+            refused("like of an empty slot", () -> x.like(1, 0, 0));
+            for (int s : NO_SLOTS) {
+                refused("weight of slot " + s, () -> x.weight(s, 0, false, 0));
+                refused("weight of numbers of slot " + s, () -> x.weight(s, 0, true, 0));
+                refused("like of slot " + s, () -> x.like(s, 0, 0));
+            }
+        });
         sentence("promise 8", "LIKE k (0 to 8)", () -> {
             MemoryRows x = withRule(0, 4, 1, 0, 7, 3);
             long[] tops = {16, 12, 9, 27, 81, 243, 729, 2187, 6561};
@@ -955,7 +1011,8 @@ public final class BoundaryTest extends Bench {
                 leavesAllButTheTape("no pair", x -> number(x.given(s)), 0);
                 leavesAllButTheTape("half a pair", x -> number(x.given(s)), 0, 1);
                 leavesAllButTheTape("a pair and a half", x -> number(x.given(s)), 0, 0, 3, 0);
-                leavesAllButTheTape("five pairs and a half", x -> number(x.given(s)), 0, 0, 3, 0, 1, 0, 1, 0, 1, 0, 1, 0);
+                leavesAllButTheTape("five pairs and a half", x -> number(x.given(s)), 0,
+                    0, 3, 0, 1, 0, 1, 0, 1, 0, 1, 0);
                 leavesAllButTheTape("six pairs", x -> number(x.given(s)), 0, pairs(3, 1, 1, 1, 1, 1));
                 leavesAllButTheTape("fifty pairs", x -> number(x.given(s)), 0, repeated(1, 100));
             }
@@ -1073,7 +1130,7 @@ public final class BoundaryTest extends Bench {
         sentence("promise 13", "R0, R2, R4 as far as told: true", () -> {
             for (int told = 1; told <= 5; told++) {
                 MemoryRows x = withLikenesses(Arrays.copyOf(new int[] {9, 8, -7, 6, 5}, told));
-                due("given", give(x, 1, 9, 9, 9, 9, 9), true);
+                due("given", give(x, 1, 3, 3, 3, 3, 3), true);
                 due("thin", x.thin(1, 0), true);
                 int[] want = {9, -7, 5};
                 int left = (told + 1) / 2;
@@ -1146,6 +1203,18 @@ public final class BoundaryTest extends Bench {
             refused("F5 of 5", () -> x.share(0, 5, 5, 0));
             refused("F1 of MAX", () -> x.share(0, MAX, 1, 0));
         });
+        sentence("promise 16", "another j or what", () -> {
+            MemoryRows x = withLikenesses(16, 8, 4, 2, 1);
+            for (int k = 1; k <= 4; k++) {
+                for (int j = -1; j <= 6; j++) {
+                    int step = k;
+                    int share = j;
+                    due("F" + j + " of " + k, said(() -> x.share(0, step, share, 0)).equals(REFUSED), j < 1 || j > k);
+                }
+                int last = k;
+                onlyTwoParts("the last F of " + k, what -> x.share(0, last, last, what));
+            }
+        });
         sentence("promise 17", "G of STEP k (0: R0)", () -> {
             MemoryRows x = withLikenesses(1000, 500, 250, 125);
             fraction("G 0", what -> x.left(0, 0, what), 1000, 1);
@@ -1161,6 +1230,13 @@ public final class BoundaryTest extends Bench {
             }
             MemoryRows y = withLikenesses(1);
             refused("G 1 of n 0", () -> y.left(0, 1, 0));
+        });
+        sentence("promise 17", "or another what", () -> {
+            MemoryRows x = withLikenesses(16, 8, 4, 2, 1);
+            for (int k = 0; k <= 4; k++) {
+                int step = k;
+                onlyTwoParts("G " + k, what -> x.left(0, step, what));
+            }
         });
         sentence("promise 18", "NONE without LIKENESSES", () -> {
             leavesAll("solid of an empty slot", x -> x.solid(3), "-1");
@@ -1313,6 +1389,11 @@ public final class BoundaryTest extends Bench {
             for (int k : new int[] {0, 6, -1, MIN, MAX}) {
                 refused("next " + k, () -> x.next(0, k, 0));
             }
+            int[] numbers = repeated(1, 60);
+            numbers[59] = -16;
+            setRow(x, numbers);
+            fraction("behind a full ROW", what -> x.next(0, 1, what), 12, 1);
+            fraction("five behind a full ROW", what -> x.next(0, 5, what), 243, 64);
         });
         sentence("promise 23", "guesses standing for what is not there yet", () -> {
             MemoryRows x = withRow(20, 20, 20);
@@ -1359,6 +1440,23 @@ public final class BoundaryTest extends Bench {
                 }
             }
         });
+        sentence("promise 23", "another k or what", () -> {
+            MemoryRows x = withRow(1, 2, 3);
+            addRule(x, 0, 2, 1, 0, 1, 1);
+            for (int k = 1; k <= 5; k++) {
+                int far = k;
+                onlyTwoParts("next " + k, what -> x.next(0, far, what));
+            }
+            refused("k 0", () -> x.next(0, 0, 1));
+            refused("k 6", () -> x.next(0, 6, 1));
+        });
+        sentence("promise 23", "NoSuchElementException: no RULE", () -> {
+            MemoryRows x = withRow(1, 2, 3);
+            refused("an empty slot", () -> x.next(0, 1, 0));
+            for (int s : NO_SLOTS) {
+                refused("slot " + s, () -> x.next(s, 1, 0));
+            }
+        });
         sentence("promise 24", "How many places are WHOLE by the RULE", () -> {
             MemoryRows x = withRow(repeated(1, 60));
             addRule(x, 0, 1, 0, 0, 1);
@@ -1392,6 +1490,11 @@ public final class BoundaryTest extends Bench {
             }
             addRule(x, 0, 1, 0, 0, 1);
             fraction("without miss shares", what -> x.squares(0, what), 5, 1);
+        });
+        sentence("promise 25", "or another what", () -> {
+            MemoryRows x = withRow(1, 2);
+            addRule(x, 0, 2, 1, 0, 1, 1);
+            onlyTwoParts("squares", what -> x.squares(0, what));
         });
     }
 
@@ -1478,6 +1581,10 @@ public final class BoundaryTest extends Bench {
             fraction("its GAP", what -> x.filled(0, what), 2, 1);
             refused("a GAP of the fill before", () -> x.filled(1, 0));
             refused("a GAP of the fill before", () -> x.filled(2, 0));
+        });
+        sentence("promise 27", "another what", () -> {
+            MemoryRows x = furnished();
+            onlyTwoParts("filled", what -> x.filled(0, what));
         });
         sentence("promise 27", "or the ROW was changed since", () -> {
             changesTheFilling("a number for the GAP", x -> due("put", x.put(2, 1), true));
@@ -1578,6 +1685,7 @@ public final class BoundaryTest extends Bench {
             addRule(x, 0, 1, 0, 0, 1);
             due("amiss", x.amiss(0), 0);
             fraction("lower", what -> x.lower(what), 1, 1);
+            onlyTwoParts("lower", what -> x.lower(what));
         });
         sentence("promise 30", "0 RULES, 1 LIKENESSES, 2 places of the ROW, 3 GAPS, 4 bytes of the tape", () -> {
             MemoryRows x = furnished();
