@@ -877,9 +877,10 @@ public final class MemoryRows {
             }
         }
 
+        // Only the miss at a place itself and the p misses behind it feel the number there.
         long pulledMisses(Rule rule, int place) {
             long sum = 0;
-            for (int t = rule.p; t < length; t++) {
+            for (int t = Math.max(rule.p, place); t < length && t <= place + rule.p; t++) {
                 sum += rule.pull(t - place) * missAt(rule, t);
             }
             return sum;
@@ -891,7 +892,7 @@ public final class MemoryRows {
 
         private long jointPulls(Rule rule, int one, int two) {
             long sum = 0;
-            for (int t = rule.p; t < length; t++) {
+            for (int t = Math.max(rule.p, one); t < length && t <= one + rule.p; t++) {
                 sum += rule.pull(t - one) * rule.pull(t - two);
             }
             return sum;
